@@ -1,0 +1,29 @@
+/** Counts and prints the answers that are not the due ones. */
+final class Due {
+    private static int wrong = 0;
+
+    private Due() {
+    }
+
+    static void equal(String what, long got, long want) {
+        if (got != want) {
+            wrong++;
+            System.out.println(what + " answered " + got + ", due is " + want);
+        }
+    }
+
+    static void isTrue(String what, boolean got) {
+        equal(what, got ? 1 : 0, 1);
+    }
+
+    static void isFalse(String what, boolean got) {
+        equal(what, got ? 1 : 0, 0);
+    }
+
+    static void finish() {
+        if (wrong != 0) {
+            System.out.println(wrong + " answers are not as due");
+            System.exit(1);
+        }
+    }
+}
