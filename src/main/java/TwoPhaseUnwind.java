@@ -60,7 +60,8 @@ public final class TwoPhaseUnwind {
     private int highestCall;
 
     // Working state of run. Calls only go to higher functions, so no TRY or CALL token has
-    // two frames at a time: MAX_TOKENS are enough, and a TRY token names its frame.
+    // two frames at a time: MAX_TOKENS are enough, and a TRY token names its frame. Every body
+    // of a valid program is closed by a token, so pc never passes the last one.
     private final int[] frameToken = new int[MAX_TOKENS];
     private final int[] framePart = new int[MAX_TOKENS];
     // In a CATCH body the type it caught, in a FINALLY body the type that is under way.
@@ -213,7 +214,6 @@ public final class TwoPhaseUnwind {
         for (int i = 0; i < MAX_TOKENS; i++) {
             clauseTry[i] = NO_TOKEN;
             finallyOf[i] = NO_TOKEN;
-            endOf[i] = NO_TOKEN;
         }
     }
 
@@ -377,7 +377,6 @@ public final class TwoPhaseUnwind {
     private void pushFrame(int part) {
         frameToken[depth] = pc;
         framePart[depth] = part;
-        frameType[depth] = 0;
         frameHandler[depth] = NO_TOKEN;
         depth++;
     }
@@ -434,7 +433,8 @@ public final class TwoPhaseUnwind {
     }
 
     private int findClause(int tryToken, int type) {
-        for (int i = tryToken + 1; i < endOf[tryToken]; i++) {
+        int end = endOf[tryToken];
+        for (int i = tryToken + 1; i < end; i++) {
             // Clauses of nested TRY statements lie in this range too.
             if (clauseTry[i] == tryToken && (args[i] == CATCH_ANY || args[i] == type)) {
                 return i;
@@ -477,7 +477,7 @@ public final class TwoPhaseUnwind {
         pc = finallyOf[frameToken[frame]] + 1;
     }
 
-    /** The frames of the current function nest as its text does, so the first CATCH is the lexical one. */
+    /** Frames nest as the text of their function does, so the innermost CATCH is the lexical one. */
     private int innermostCaughtType() {
         for (int i = depth - 1; i >= 0; i--) {
             if (framePart[i] == IN_CATCH) {

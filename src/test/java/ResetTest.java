@@ -59,10 +59,34 @@ public final class ResetTest {
         Due.equal("getTrace(0)", x.getTrace(0), 8);
     }
 
+    private static void nothingOfTheOldClausesStays() {
+        TwoPhaseUnwind x = Program.ran("FUNC TRY THROW:1 CATCH:1 END END", 0);
+        x.reset();
+        // A MARK stands where the CATCH stood.
+        Program.add(x, "FUNC TRY ADD:1 MARK:0 THROW:1 CATCH:2 END END");
+        Due.equal("compile() after reset", x.compile(), TwoPhaseUnwind.COMPILE_OK);
+        Due.isTrue("run(0) after reset", x.run(0));
+        Due.equal("getUncaughtType()", x.getUncaughtType(), 1);
+        Due.equal("getCatchRuns()", x.getCatchRuns(), 0);
+    }
+
+    private static void nothingOfARefusedCompileStays() {
+        TwoPhaseUnwind x = Program.of("FUNC CALL:3 TRY CATCH:1 TRY");
+        Due.equal("compile() of open tries", x.compile(), 5);
+        x.reset();
+        Program.add(x, "FUNC END");
+        Due.equal("compile() after reset", x.compile(), TwoPhaseUnwind.COMPILE_OK);
+        x.reset();
+        Program.add(x, "FUNC RETHROW");
+        Due.equal("compile() of a RETHROW outside", x.compile(), 1);
+    }
+
     public static void main(String[] args) {
         everyState();
         capacitiesStay();
         nothingOfTheOldProgramStays();
+        nothingOfTheOldClausesStays();
+        nothingOfARefusedCompileStays();
         Due.finish();
     }
 }

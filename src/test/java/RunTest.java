@@ -130,6 +130,9 @@ public final class RunTest {
                 "NORMAL acc=0 trace=[1 2 3] catches=2 finallys=1");
         // The actual type, not the clause's 0.
         due("FUNC TRY THROW:7 CATCH:0 RETHROW END END", 0, "UNCAUGHT type=7 acc=0 trace=[] catches=1 finallys=0");
+        // The type is kept while finally bodies on the way run.
+        due("FUNC TRY TRY TRY THROW:5 FINALLY END FINALLY TRY THROW:8 CATCH:8 END END CATCH:0 RETHROW END END", 0,
+                "UNCAUGHT type=5 acc=0 trace=[] catches=2 finallys=2");
         // The innermost catch body that contains the token counts, not the newest exception.
         due("FUNC TRY THROW:1 CATCH:1 TRY THROW:2 CATCH:2 MARK:1 END RETHROW END END", 0,
                 "UNCAUGHT type=1 acc=0 trace=[1] catches=2 finallys=0");
