@@ -32,7 +32,7 @@ public final class TwoPhaseUnwind {
     private static final int IN_FINALLY = 3;
 
     // A token runs at most once in each activation of its function, and 32 tokens make
-    // some hundred activations at the most, so no run comes near this bound.
+    // fewer than a thousand activations, so no run comes near this bound.
     private static final int MAX_STEPS = 1000000;
 
     private final int maxTokens;
