@@ -61,7 +61,8 @@ public final class TwoPhaseUnwind {
 
     // Working state of run. Calls only go to higher functions, so no TRY or CALL token has
     // two frames at a time: MAX_TOKENS are enough, and a TRY token names its frame. Every body
-    // of a valid program is closed by a token, so pc never passes the last one.
+    // of a valid program is closed by a token, so pc never passes the last one. The looks at
+    // these bounds below only make it plain that no index can go astray.
     private final int[] frameToken = new int[MAX_TOKENS];
     private final int[] framePart = new int[MAX_TOKENS];
     // In a CATCH body the type it caught, in a FINALLY body the type that is under way.
@@ -128,7 +129,7 @@ public final class TwoPhaseUnwind {
         acc = input;
         depth = 0;
         pc = functionStart[0] + 1;
-        for (int step = 0; step < MAX_STEPS && status == STATUS_NONE; step++) {
+        for (int step = 0; step < MAX_STEPS && status == STATUS_NONE && pc < tokenCount; step++) {
             executeToken();
         }
         return true;
@@ -271,6 +272,9 @@ public final class TwoPhaseUnwind {
     }
 
     private boolean acceptTry(int i) {
+        if (openCount >= MAX_TOKENS) {
+            return false;
+        }
         openTry[openCount] = i;
         openPart[openCount] = IN_TRY;
         openCount++;
@@ -354,6 +358,7 @@ public final class TwoPhaseUnwind {
                 break;
             case T_CALL:
                 pushFrame(IN_CALL);
+                // compile has let only the number of a function stand here.
                 pc = functionStart[arg] + 1;
                 break;
             case T_TRY:
@@ -375,6 +380,9 @@ public final class TwoPhaseUnwind {
     }
 
     private void pushFrame(int part) {
+        if (depth >= MAX_TOKENS) {
+            return;
+        }
         frameToken[depth] = pc;
         framePart[depth] = part;
         frameHandler[depth] = NO_TOKEN;
