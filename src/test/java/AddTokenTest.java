@@ -1,73 +1,180 @@
+import java.util.List;
+
 /** Promise 3: what addToken takes, what it refuses, and what each changes. */
 public final class AddTokenTest {
-    private static final int[] WRONG_KINDS = {0, -1, 12, 13, 256 + 7, Integer.MIN_VALUE, Integer.MAX_VALUE};
+    private static final int MIN = Integer.MIN_VALUE;
+    private static final int MAX = Integer.MAX_VALUE;
+    /** The edges, and ints that a narrower type would fold into 1..11. */
+    private static final int[] WRONG_KINDS = {MIN, MIN + 1, MIN + 7, -65535, -256 + 7, -11, -2, -1, 0, 12, 13, 15, 16,
+        17, 32, 128 + 7, 256 + 7, 65536 + 7, MAX - 1, MAX};
+    private static final int[] ARGS = {0, 1, 15, 16, -1, 128, 255, 256, 32768, 65536, MIN, MIN + 1, MAX - 1, MAX};
 
-    private static void everyKindWithEveryArg() {
-        int[] someArgs = {0, 1, 15, 16, -1, 100, Integer.MIN_VALUE, Integer.MAX_VALUE};
+    private static void fullRefuses() {
+        for (int maxTokens = 8; maxTokens <= 32; maxTokens++) {
+            TwoPhaseUnwind x = new TwoPhaseUnwind(maxTokens, 1);
+            for (int i = 0; i < maxTokens; i++) {
+                Due.isTrue("addToken " + i + " of " + maxTokens, x.addToken(i % 11 + 1, i));
+            }
+            for (int kind = 1; kind <= 11; kind++) {
+                Due.isFalse("addToken(" + kind + ", 0) beyond " + maxTokens, x.addToken(kind, 0));
+                Due.equal("getTokenCount()", x.getTokenCount(), maxTokens);
+            }
+            x.reset();
+            Due.isTrue("addToken after reset", x.addToken(1, 0));
+        }
+    }
+
+    private static void wrongKindRefused() {
+        TwoPhaseUnwind x = new TwoPhaseUnwind(8, 1);
+        for (int tokens = 0; tokens < 8; tokens++) {
+            for (int kind : WRONG_KINDS) {
+                Due.isFalse("addToken(" + kind + ", 1)", x.addToken(kind, 1));
+                Due.equal("getTokenCount()", x.getTokenCount(), tokens);
+            }
+            Due.isTrue("addToken", x.addToken(TwoPhaseUnwind.T_ADD, 1));
+        }
+    }
+
+    private static void everyKindTaken() {
+        for (int kind = 1; kind <= 11; kind++) {
+            TwoPhaseUnwind x = new TwoPhaseUnwind(8, 1);
+            Due.isTrue("addToken(" + kind + ", 0)", x.addToken(kind, 0));
+            Due.equal("getTokenCount()", x.getTokenCount(), 1);
+            Due.equal("getTokenKind(0)", x.getTokenKind(0), kind);
+        }
+    }
+
+    /** Both tests answer false, so all that shows of their order is that a full object refuses both. */
+    private static void fullAndWrongKind() {
+        TwoPhaseUnwind x = Program.add(new TwoPhaseUnwind(9, 8), Program.BUSY);
+        x.compile();
+        x.run(1);
+        String before = States.seen(x);
+        for (int kind : WRONG_KINDS) {
+            Due.isFalse("addToken(" + kind + ", 1) when full", x.addToken(kind, 1));
+            Due.same("full, after kind " + kind, States.seen(x), before);
+        }
+    }
+
+    private static void dueUnchanged(States.State state, States.State twin, int kind, int arg) {
+        String before = States.seen(state.x());
+        Due.isFalse(state.name() + ": addToken(" + kind + ", " + arg + ")", state.x().addToken(kind, arg));
+        Due.same(state.name() + ", refused: all getters", States.seen(state.x()), before);
+        Due.same(state.name() + ", refused: all later answers", States.future(state.x()), States.future(twin.x()));
+    }
+
+    private static void wrongKindChangesNothing() {
+        int states = States.all().size();
+        for (int kind : WRONG_KINDS) {
+            List<States.State> some = States.all();
+            List<States.State> twins = States.all();
+            for (int s = 0; s < states; s++) {
+                dueUnchanged(some.get(s), twins.get(s), kind, 5);
+            }
+        }
+    }
+
+    private static void fullChangesNothing() {
+        int full = 0;
+        for (int kind = 1; kind <= 11; kind++) {
+            List<States.State> some = States.all();
+            List<States.State> twins = States.all();
+            for (int s = 0; s < some.size(); s++) {
+                if (some.get(s).x().getTokenCount() == some.get(s).maxTokens()) {
+                    full++;
+                    dueUnchanged(some.get(s), twins.get(s), kind, MAX);
+                }
+            }
+        }
+        // Not compiled, refused by compile, compiled, and run.
+        Due.equal("full objects tried", full, 4 * 11);
+    }
+
+    private static void anyArgAnyKind() {
         for (int kind = 1; kind <= 11; kind++) {
             TwoPhaseUnwind x = new TwoPhaseUnwind(32, 1);
-            for (int i = 0; i < someArgs.length; i++) {
-                Due.isTrue("addToken(" + kind + ", " + someArgs[i] + ")", x.addToken(kind, someArgs[i]));
-                Due.equal("getTokenCount()", x.getTokenCount(), i + 1);
-                for (int j = 0; j <= i; j++) {
-                    Due.equal("getTokenKind(" + j + ")", x.getTokenKind(j), kind);
-                    Due.equal("getTokenArg(" + j + ")", x.getTokenArg(j), someArgs[j]);
+            for (int i = 0; i < ARGS.length; i++) {
+                Due.isTrue("addToken(" + kind + ", " + ARGS[i] + ")", x.addToken(kind, ARGS[i]));
+                Due.equal("getTokenKind(" + i + ")", x.getTokenKind(i), kind);
+                Due.equal("getTokenArg(" + i + ")", x.getTokenArg(i), ARGS[i]);
+            }
+        }
+    }
+
+    private static void neverRefusedForItsArg() {
+        // Args that compile refuses wherever the token stands, on an object that holds a program.
+        int[] kinds = {4, 4, 4, 4, 8, 8, 8, 8, 9, 9, 9, 9, 11, 11, 11, 11};
+        int[] args = {-1, 16, MIN, MAX, 0, 16, MIN, MAX, 0, 16, MIN, MAX, 0, 4, MIN, MAX};
+        for (int i = 0; i < kinds.length; i++) {
+            TwoPhaseUnwind x = Program.ran(Program.BUSY, 1);
+            Due.isTrue("addToken(" + kinds[i] + ", " + args[i] + ")", x.addToken(kinds[i], args[i]));
+            Due.equal("getTokenArg(9)", x.getTokenArg(9), args[i]);
+        }
+    }
+
+    private static void taken(boolean compiledFirst) {
+        List<States.State> states = compiledFirst ? States.compiledButNotRun() : States.afterARun();
+        int tried = 0;
+        for (States.State state : states) {
+            TwoPhaseUnwind x = state.x();
+            if (x.getTokenCount() < state.maxTokens()) {
+                Due.isTrue(state.name() + ": addToken(T_FUNC, 77)", x.addToken(TwoPhaseUnwind.T_FUNC, 77));
+                Program.dueNotCompiled(state.name() + ", a token added", x);
+                Program.dueCleared(state.name() + ", a token added", x);
+                Due.isFalse(state.name() + ", a token added: run(1)", x.run(1));
+                tried++;
+            }
+        }
+        Due.isTrue("objects with room: " + tried, tried >= 3);
+    }
+
+    private static void takenAtTheEndOfAProgram() {
+        TwoPhaseUnwind x = Program.ran(Program.BUSY, 1);
+        Program.add(x, "FUNC END");
+        Program.dueNotCompiled("two tokens added", x);
+        Due.equal("compile()", x.compile(), TwoPhaseUnwind.COMPILE_OK);
+        Due.equal("getFunctionCount()", x.getFunctionCount(), 2);
+    }
+
+    private static void growsByOne() {
+        for (States.State state : States.all()) {
+            TwoPhaseUnwind x = state.x();
+            int before = x.getTokenCount();
+            boolean room = before < state.maxTokens();
+            Due.equal(state.name() + ": addToken", x.addToken(TwoPhaseUnwind.T_END, MIN) ? 1 : 0, room ? 1 : 0);
+            Due.equal(state.name() + ": getTokenCount()", x.getTokenCount(), before + (room ? 1 : 0));
+        }
+    }
+
+    private static void earlierTokensStay() {
+        for (int maxTokens = 8; maxTokens <= 32; maxTokens++) {
+            TwoPhaseUnwind x = new TwoPhaseUnwind(maxTokens, 1);
+            for (int n = 0; n < maxTokens; n++) {
+                x.addToken((n * 5) % 11 + 1, ARGS[n % ARGS.length]);
+                for (int i = 0; i <= n; i++) {
+                    Due.equal("getTokenKind(" + i + ")", x.getTokenKind(i), (i * 5) % 11 + 1);
+                    Due.equal("getTokenArg(" + i + ")", x.getTokenArg(i), ARGS[i % ARGS.length]);
                 }
             }
         }
     }
 
-    private static void dueAsRunBefore(String when, TwoPhaseUnwind x, int tokens, String outcome) {
-        Due.equal(when + ": getTokenCount()", x.getTokenCount(), tokens);
-        Due.isTrue(when + ": isCompiled()", x.isCompiled());
-        Due.equal(when + ": getFunctionCount()", x.getFunctionCount(), 1);
-        Due.isTrue(when + ": results stay", Program.outcome(x).equals(outcome));
-        Due.equal(when + ": getTokenKind(0)", x.getTokenKind(0), TwoPhaseUnwind.T_FUNC);
-        Due.equal(when + ": getTokenKind(next)", x.getTokenKind(tokens), 0);
-    }
-
-    private static void wrongKindChangesNothing() {
-        TwoPhaseUnwind x = Program.ran(Program.BUSY, 1);
-        String outcome = Program.outcome(x);
-        int tokens = x.getTokenCount();
-        for (int kind : WRONG_KINDS) {
-            Due.isFalse("addToken(" + kind + ", 1)", x.addToken(kind, 1));
-            dueAsRunBefore("after kind " + kind, x, tokens, outcome);
-        }
-        Due.isTrue("run(1) after refusals", x.run(1));
-    }
-
-    private static void fullChangesNothing() {
-        TwoPhaseUnwind x = new TwoPhaseUnwind(9, 8);
-        Program.add(x, "FUNC TRY THROWNZ:3 CATCH:3 MARK:7 FINALLY END THROWNZ:4 END");
-        Due.equal("compile()", x.compile(), TwoPhaseUnwind.COMPILE_OK);
-        Due.isTrue("run(1)", x.run(1));
-        String outcome = Program.outcome(x);
-        for (int kind = -1; kind <= 13; kind++) {
-            Due.isFalse("addToken(" + kind + ", 1) when full", x.addToken(kind, 1));
-            dueAsRunBefore("full, after kind " + kind, x, 9, outcome);
-        }
-    }
-
-    private static void takenTokenDropsProgramAndResults() {
-        TwoPhaseUnwind x = Program.ran(Program.BUSY, 1);
-        int tokens = x.getTokenCount();
-        Due.isTrue("addToken(T_FUNC, 77)", x.addToken(TwoPhaseUnwind.T_FUNC, 77));
-        Due.equal("getTokenCount()", x.getTokenCount(), tokens + 1);
-        Due.equal("getTokenArg(last)", x.getTokenArg(tokens), 77);
-        Program.dueNotCompiled("after addToken", x);
-        Program.dueCleared("after addToken", x);
-        Due.isFalse("run(1) after addToken", x.run(1));
-        Program.add(x, "END");
-        Due.equal("compile()", x.compile(), TwoPhaseUnwind.COMPILE_OK);
-        Due.equal("getFunctionCount()", x.getFunctionCount(), 2);
-    }
-
     public static void main(String[] args) {
-        everyKindWithEveryArg();
-        wrongKindChangesNothing();
-        fullChangesNothing();
-        takenTokenDropsProgramAndResults();
+        Due.sentence("If the token count already equals maxTokens, it answers false", AddTokenTest::fullRefuses);
+        Due.sentence("If kind is not in 1..11, it answers false", AddTokenTest::wrongKindRefused);
+        Due.sentence("Otherwise it appends and answers true: every kind in 1..11", AddTokenTest::everyKindTaken);
+        Due.sentence("tests in this order", AddTokenTest::fullAndWrongKind);
+        Due.sentence("A refused call changes nothing at all: kind not in 1..11", AddTokenTest::wrongKindChangesNothing);
+        Due.sentence("A refused call changes nothing at all: full", AddTokenTest::fullChangesNothing);
+        Due.sentence("The arg is stored unchanged whatever its value, also for kinds whose arg is ignored",
+                AddTokenTest::anyArgAnyKind);
+        Due.sentence("addToken never refuses a token because of its arg", AddTokenTest::neverRefusedForItsArg);
+        Due.sentence("A successful call also sets not compiled and function count 0: after a compile",
+                () -> taken(true));
+        Due.sentence("A successful call also clears the results: after a run", () -> taken(false));
+        Due.sentence("A successful call: the program can be compiled anew", AddTokenTest::takenAtTheEndOfAProgram);
+        Due.sentence("The token count grows by exactly 1", AddTokenTest::growsByOne);
+        Due.sentence("earlier tokens do not change", AddTokenTest::earlierTokensStay);
         Due.finish();
     }
 }

@@ -1,12 +1,33 @@
-/** Counts and prints the answers that are not the due ones. */
+/** Runs the tests of the document's sentences, and counts and prints the answers that are not the due ones. */
 final class Due {
     private static int wrong = 0;
 
     private Due() {
     }
 
+    /** Runs the test of one sentence, and names the sentence if it does not hold. */
+    static void sentence(String words, Runnable test) {
+        int before = wrong;
+        try {
+            test.run();
+        } catch (RuntimeException thrown) {
+            wrong++;
+            System.out.println("a call threw " + thrown);
+        }
+        if (wrong != before) {
+            System.out.println("BROKEN: \"" + words + "\"");
+        }
+    }
+
     static void equal(String what, long got, long want) {
         if (got != want) {
+            wrong++;
+            System.out.println(what + " answered " + got + ", due is " + want);
+        }
+    }
+
+    static void same(String what, String got, String want) {
+        if (!got.equals(want)) {
             wrong++;
             System.out.println(what + " answered " + got + ", due is " + want);
         }

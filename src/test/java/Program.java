@@ -8,8 +8,19 @@ final class Program {
     private Program() {
     }
 
+    /** Leaves every result non-zero when run with 1: UNCAUGHT 4, acc 1, one mark, one catch, one finally. */
+    static final String BUSY = "FUNC TRY THROWNZ:3 CATCH:3 MARK:7 FINALLY END THROWNZ:4 END";
+
+    /** Runs to NORMAL with acc 1 through four functions, with two marks, one catch and one finally. */
+    static final String FOUR = "FUNC TRY CALL:1 CATCH:0 MARK:8 FINALLY MARK:9 END END"
+            + " FUNC CALL:2 END FUNC CALL:3 END FUNC THROWNZ:6 END";
+
+    /** Runs sixty marks: function 0 calls function 1 six times, which has ten. */
+    static final String MARKS_60 = "FUNC CALL:1 CALL:1 CALL:1 CALL:1 CALL:1 CALL:1 END"
+            + " FUNC MARK:1 MARK:2 MARK:3 MARK:4 MARK:5 MARK:6 MARK:7 MARK:8 MARK:9 MARK:10 END";
+
     /** Adds the tokens of the text to x; every one of them must be taken. */
-    static void add(TwoPhaseUnwind x, String text) {
+    static TwoPhaseUnwind add(TwoPhaseUnwind x, String text) {
         for (String word : text.trim().split("\\s+")) {
             if (!word.isEmpty()) {
                 String[] parts = word.split(":");
@@ -18,12 +29,11 @@ final class Program {
                 Due.isTrue("addToken " + word + " of [" + text + "]", x.addToken(kind, arg));
             }
         }
+        return x;
     }
 
     static TwoPhaseUnwind of(String text) {
-        TwoPhaseUnwind x = new TwoPhaseUnwind(32, 32);
-        add(x, text);
-        return x;
+        return add(new TwoPhaseUnwind(32, 32), text);
     }
 
     static TwoPhaseUnwind compiled(String text) {
@@ -38,7 +48,7 @@ final class Program {
         return x;
     }
 
-    /** The state after a run in one line, such as "NORMAL acc=1 trace=[20, 10] catches=1 finallys=3". */
+    /** The state after a run in one line, such as "NORMAL acc=1 trace=[20 10] catches=1 finallys=3". */
     static String outcome(TwoPhaseUnwind x) {
         StringBuilder line = new StringBuilder();
         switch (x.getStatus()) {
@@ -60,10 +70,7 @@ final class Program {
 
     /** Compiles and runs the text, and compares what comes out with the due line. */
     static void due(String text, int input, String want) {
-        String got = outcome(ran(text, input));
-        if (!got.equals(want)) {
-            Due.isTrue("run(" + input + ") of [" + text + "]: got " + got + ", due " + want + ";", false);
-        }
+        Due.same("run(" + input + ") of [" + text + "]", outcome(ran(text, input)), want);
     }
 
     static void dueCleared(String when, TwoPhaseUnwind x) {
@@ -80,8 +87,4 @@ final class Program {
         Due.isFalse(when + ": isCompiled()", x.isCompiled());
         Due.equal(when + ": getFunctionCount()", x.getFunctionCount(), 0);
     }
-
-    /** Leaves every result non-zero when run with 1: UNCAUGHT 4, acc 1, one mark, one catch, one finally. */
-    static final String BUSY =
-            "FUNC TRY THROWNZ:3 CATCH:3 MARK:7 FINALLY END THROWNZ:4 END";
 }

@@ -1,0 +1,118 @@
+import java.util.ArrayList;
+import java.util.List;
+
+/** Objects in every state that the document tells apart, and all that can be seen of an object. */
+final class States {
+    /** The capacities are the clamped ones. */
+    record State(String name, int maxTokens, int traceCapacity, TwoPhaseUnwind x) {
+    }
+
+    /** Indexes that lie outside of the tokens and of the trace of every object. */
+    static final int[] OUTSIDE = {Integer.MIN_VALUE, Integer.MIN_VALUE + 1, -65536, -33, -32, -31, -2, -1, 32, 33, 64,
+            65536, Integer.MAX_VALUE - 1, Integer.MAX_VALUE};
+
+    private States() {
+    }
+
+    /** Makes new objects each time, always in the same order. */
+    static List<State> all() {
+        List<State> list = new ArrayList<>();
+        list.addAll(notCompiled());
+        list.addAll(compiledButNotRun());
+        list.addAll(afterARun());
+        return list;
+    }
+
+    static List<State> notCompiled() {
+        TwoPhaseUnwind refusedAtToken = Program.of("FUNC RETHROW END");
+        refusedAtToken.compile();
+        TwoPhaseUnwind refusedAtEnd = Program.of("FUNC CALL:1 TRY CATCH:2");
+        refusedAtEnd.compile();
+        TwoPhaseUnwind added = Program.ran(Program.BUSY, 1);
+        added.addToken(TwoPhaseUnwind.T_MARK, 3);
+        TwoPhaseUnwind wasReset = Program.ran(Program.BUSY, 1);
+        wasReset.reset();
+        TwoPhaseUnwind fullOfTries = new TwoPhaseUnwind(32, 5);
+        for (int i = 0; i < 32; i++) {
+            fullOfTries.addToken(i == 0 ? TwoPhaseUnwind.T_FUNC : TwoPhaseUnwind.T_TRY, i);
+        }
+        fullOfTries.compile();
+        return List.of(
+                new State("new", 32, 32, new TwoPhaseUnwind(32, 32)),
+                new State("new and smallest", 8, 1, new TwoPhaseUnwind(Integer.MIN_VALUE, Integer.MIN_VALUE)),
+                new State("tokens added", 32, 32, Program.of(Program.BUSY)),
+                new State("full, not compiled", 9, 1, Program.add(new TwoPhaseUnwind(9, 1), Program.BUSY)),
+                new State("refused by compile at a token", 32, 32, refusedAtToken),
+                new State("refused by compile at the end", 32, 32, refusedAtEnd),
+                new State("full of open tries, refused by compile", 32, 5, fullOfTries),
+                new State("a token added after a run", 32, 32, added),
+                new State("reset after a run", 32, 32, wasReset));
+    }
+
+    static List<State> compiledButNotRun() {
+        TwoPhaseUnwind full = Program.add(new TwoPhaseUnwind(9, 1), Program.BUSY);
+        full.compile();
+        TwoPhaseUnwind again = Program.ran(Program.BUSY, 1);
+        again.compile();
+        return List.of(
+                new State("compiled", 32, 32, Program.compiled(Program.BUSY)),
+                new State("four functions compiled", 32, 32, Program.compiled(Program.FOUR)),
+                new State("full and compiled", 9, 1, full),
+                new State("compiled again after a run", 32, 32, again));
+    }
+
+    static List<State> afterARun() {
+        TwoPhaseUnwind full = Program.add(new TwoPhaseUnwind(9, 1), Program.BUSY);
+        full.compile();
+        full.run(1);
+        TwoPhaseUnwind fullTrace = Program.add(new TwoPhaseUnwind(25, 3), Program.MARKS_60);
+        fullTrace.compile();
+        fullTrace.run(-5);
+        return List.of(
+                new State("run to UNCAUGHT", 32, 32, Program.ran(Program.BUSY, 1)),
+                new State("run to NORMAL", 32, 32, Program.ran(Program.FOUR, 1)),
+                new State("run with the result 0", 32, 32, Program.ran(Program.BUSY, 0)),
+                new State("full and run", 9, 1, full),
+                new State("run until the trace was full", 25, 3, fullTrace));
+    }
+
+    /** Every getter's answer, those with an index also far outside. */
+    static String seen(TwoPhaseUnwind x) {
+        StringBuilder s = new StringBuilder("count " + x.getTokenCount() + " compiled " + x.isCompiled());
+        s.append(" functions ").append(x.getFunctionCount()).append(' ').append(Program.outcome(x)).append(" tokens");
+        for (int i = 0; i < 34; i++) {
+            s.append(' ').append(x.getTokenKind(i)).append(':').append(x.getTokenArg(i));
+        }
+        s.append(" trace ").append(x.getTraceLength()).append(':');
+        for (int i = 0; i < 34; i++) {
+            s.append(' ').append(x.getTrace(i));
+        }
+        for (int i : OUTSIDE) {
+            s.append(' ').append(x.getTokenKind(i)).append(x.getTokenArg(i)).append(x.getTrace(i));
+        }
+        return s.toString();
+    }
+
+    /** What the object answers from here on: two objects with one future have no hidden difference. */
+    static String future(TwoPhaseUnwind x) {
+        StringBuilder s = new StringBuilder(seen(x));
+        s.append("\nrun ").append(x.run(1)).append(seen(x));
+        s.append("\ncompile ").append(x.compile()).append(seen(x));
+        s.append("\nrun ").append(x.run(0)).append(seen(x));
+        s.append("\nrun ").append(x.run(-7)).append(seen(x));
+        int taken = 0;
+        while (taken < 100 && x.addToken(TwoPhaseUnwind.T_MARK, taken)) {
+            taken++;
+        }
+        s.append("\ntaken ").append(taken).append(seen(x));
+        s.append("\ncompile ").append(x.compile()).append(seen(x));
+        x.reset();
+        x.addToken(TwoPhaseUnwind.T_FUNC, 0);
+        for (int i = 0; i < 6; i++) {
+            x.addToken(TwoPhaseUnwind.T_MARK, i);
+        }
+        x.addToken(TwoPhaseUnwind.T_END, 0);
+        s.append("\ncompile ").append(x.compile()).append(seen(x));
+        return s.append("\nrun ").append(x.run(1)).append(seen(x)).toString();
+    }
+}
