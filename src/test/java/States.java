@@ -78,17 +78,27 @@ final class States {
 
     /** Every getter's answer, those with an index also far outside. */
     static String seen(TwoPhaseUnwind x) {
-        StringBuilder s = new StringBuilder("count " + x.getTokenCount() + " compiled " + x.isCompiled());
-        s.append(" functions ").append(x.getFunctionCount()).append(' ').append(Program.outcome(x)).append(" tokens");
+        return tokens(x) + " compiled " + x.isCompiled() + " functions " + x.getFunctionCount() + results(x);
+    }
+
+    static String tokens(TwoPhaseUnwind x) {
+        StringBuilder s = new StringBuilder(x.getTokenCount() + " tokens");
         for (int i = 0; i < 34; i++) {
             s.append(' ').append(x.getTokenKind(i)).append(':').append(x.getTokenArg(i));
         }
-        s.append(" trace ").append(x.getTraceLength()).append(':');
+        for (int i : OUTSIDE) {
+            s.append(' ').append(x.getTokenKind(i)).append(':').append(x.getTokenArg(i));
+        }
+        return s.toString();
+    }
+
+    static String results(TwoPhaseUnwind x) {
+        StringBuilder s = new StringBuilder(" " + Program.outcome(x) + " trace " + x.getTraceLength() + ":");
         for (int i = 0; i < 34; i++) {
             s.append(' ').append(x.getTrace(i));
         }
         for (int i : OUTSIDE) {
-            s.append(' ').append(x.getTokenKind(i)).append(x.getTokenArg(i)).append(x.getTrace(i));
+            s.append(' ').append(x.getTrace(i));
         }
         return s.toString();
     }
