@@ -1,5 +1,7 @@
 import java.util.ArrayList;
 import java.util.List;
+import java.util.function.Consumer;
+import java.util.function.IntConsumer;
 
 /** Objects in every state that the document tells apart, and all that can be seen of an object. */
 final class States {
@@ -16,10 +18,15 @@ final class States {
 
     /** Makes new objects each time, always in the same order. */
     static List<State> all() {
-        List<State> list = new ArrayList<>();
-        list.addAll(notCompiled());
-        list.addAll(compiledButNotRun());
+        List<State> list = cleared();
         list.addAll(afterARun());
+        return list;
+    }
+
+    /** The states in which the results are cleared, by each call that clears them. */
+    static List<State> cleared() {
+        List<State> list = new ArrayList<>(notCompiled());
+        list.addAll(compiledButNotRun());
         return list;
     }
 
@@ -30,6 +37,9 @@ final class States {
         refusedAtEnd.compile();
         TwoPhaseUnwind added = Program.ran(Program.BUSY, 1);
         added.addToken(TwoPhaseUnwind.T_MARK, 3);
+        TwoPhaseUnwind refusedAfterARun = Program.ran(Program.FOUR, 1);
+        refusedAfterARun.addToken(TwoPhaseUnwind.T_MARK, 3);
+        refusedAfterARun.compile();
         TwoPhaseUnwind wasReset = Program.ran(Program.BUSY, 1);
         wasReset.reset();
         TwoPhaseUnwind fullOfTries = new TwoPhaseUnwind(32, 5);
@@ -46,6 +56,7 @@ final class States {
                 new State("refused by compile at the end", 32, 32, refusedAtEnd),
                 new State("full of open tries, refused by compile", 32, 5, fullOfTries),
                 new State("a token added after a run", 32, 32, added),
+                new State("refused by compile after a run", 32, 32, refusedAfterARun),
                 new State("reset after a run", 32, 32, wasReset));
     }
 
@@ -101,6 +112,28 @@ final class States {
             s.append(' ').append(x.getTrace(i));
         }
         return s.toString();
+    }
+
+    /** In any state: calling the getter over and over changes no answer, now or later. */
+    static void dueChangesNothing(Consumer<TwoPhaseUnwind> getter) {
+        List<State> asked = all();
+        List<State> twins = all();
+        for (int s = 0; s < asked.size(); s++) {
+            TwoPhaseUnwind x = asked.get(s).x();
+            getter.accept(x);
+            getter.accept(x);
+            Due.same(asked.get(s).name() + ", a getter called: all later answers", future(x), future(twins.get(s).x()));
+        }
+    }
+
+    /** Calls the getter with every index that an object can have, and with those far outside. */
+    static void atEveryIndex(IntConsumer getter) {
+        for (int i = 0; i < 34; i++) {
+            getter.accept(i);
+        }
+        for (int i : OUTSIDE) {
+            getter.accept(i);
+        }
     }
 
     /** What the object answers from here on: two objects with one future have no hidden difference. */
