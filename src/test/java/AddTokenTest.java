@@ -1,3 +1,4 @@
+import java.util.ArrayList;
 import java.util.List;
 
 /** Promise 3: what addToken takes, what it refuses, and what each changes. */
@@ -46,48 +47,35 @@ public final class AddTokenTest {
 
     /** Both tests answer false, so all that shows of their order is that a full object refuses both. */
     private static void fullAndWrongKind() {
-        TwoPhaseUnwind x = Program.add(new TwoPhaseUnwind(9, 8), Program.BUSY);
-        x.compile();
-        x.run(1);
-        String before = States.seen(x);
         for (int kind : WRONG_KINDS) {
-            Due.isFalse("addToken(" + kind + ", 1) when full", x.addToken(kind, 1));
-            Due.same("full, after kind " + kind, States.seen(x), before);
+            States.dueChangesNothing(AddTokenTest::fullStates,
+                    x -> Due.isFalse("addToken(" + kind + ", 5) when full", x.addToken(kind, 5)));
         }
-    }
-
-    private static void dueUnchanged(States.State state, States.State twin, int kind, int arg) {
-        String before = States.seen(state.x());
-        Due.isFalse(state.name() + ": addToken(" + kind + ", " + arg + ")", state.x().addToken(kind, arg));
-        Due.same(state.name() + ", refused: all getters", States.seen(state.x()), before);
-        Due.same(state.name() + ", refused: all later answers", States.future(state.x()), States.future(twin.x()));
     }
 
     private static void wrongKindChangesNothing() {
-        int states = States.all().size();
         for (int kind : WRONG_KINDS) {
-            List<States.State> some = States.all();
-            List<States.State> twins = States.all();
-            for (int s = 0; s < states; s++) {
-                dueUnchanged(some.get(s), twins.get(s), kind, 5);
-            }
+            States.dueChangesNothing(x -> Due.isFalse("addToken(" + kind + ", 5)", x.addToken(kind, 5)));
         }
     }
 
-    private static void fullChangesNothing() {
-        int full = 0;
-        for (int kind = 1; kind <= 11; kind++) {
-            List<States.State> some = States.all();
-            List<States.State> twins = States.all();
-            for (int s = 0; s < some.size(); s++) {
-                if (some.get(s).x().getTokenCount() == some.get(s).maxTokens()) {
-                    full++;
-                    dueUnchanged(some.get(s), twins.get(s), kind, MAX);
-                }
+    private static List<States.State> fullStates() {
+        List<States.State> full = new ArrayList<>();
+        for (States.State state : States.all()) {
+            if (state.x().getTokenCount() == state.maxTokens()) {
+                full.add(state);
             }
         }
-        // Not compiled, refused by compile, compiled, and run.
-        Due.equal("full objects tried", full, 4 * 11);
+        return full;
+    }
+
+    private static void fullChangesNothing() {
+        Due.equal("full objects: not compiled, refused by compile, compiled, and run", fullStates().size(), 4);
+        for (int kind = 1; kind <= 11; kind++) {
+            int taken = kind;
+            States.dueChangesNothing(AddTokenTest::fullStates,
+                    x -> Due.isFalse("addToken(" + taken + ", 5) when full", x.addToken(taken, 5)));
+        }
     }
 
     private static void anyArgAnyKind() {

@@ -8,8 +8,11 @@ final class Program {
     private Program() {
     }
 
-    /** Leaves every result non-zero when run with 1: UNCAUGHT 4, acc 1, one mark, one catch, one finally. */
-    static final String BUSY = "FUNC TRY THROWNZ:3 CATCH:3 MARK:7 FINALLY END THROWNZ:4 END";
+    /**
+     * Leaves every result non-zero when run with 1: UNCAUGHT 4, acc 1, one mark, one catch, one finally.
+     * Its nine tokens have args also where they are ignored.
+     */
+    static final String BUSY = "FUNC:21 TRY:-22 THROWNZ:3 CATCH:3 MARK:7 FINALLY:23 END:-24 THROWNZ:4 END:25";
 
     /** Runs to NORMAL with acc 1 through four functions, with two marks, one catch and one finally. */
     static final String FOUR = "FUNC TRY CALL:1 CATCH:0 MARK:8 FINALLY MARK:9 END END"

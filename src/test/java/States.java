@@ -1,7 +1,9 @@
 import java.util.ArrayList;
 import java.util.List;
 import java.util.function.Consumer;
-import java.util.function.IntConsumer;
+import java.util.function.Function;
+import java.util.function.IntUnaryOperator;
+import java.util.function.Supplier;
 
 /** Objects in every state that the document tells apart, and all that can be seen of an object. */
 final class States {
@@ -93,47 +95,57 @@ final class States {
     }
 
     static String tokens(TwoPhaseUnwind x) {
-        StringBuilder s = new StringBuilder(x.getTokenCount() + " tokens");
-        for (int i = 0; i < 34; i++) {
-            s.append(' ').append(x.getTokenKind(i)).append(':').append(x.getTokenArg(i));
-        }
-        for (int i : OUTSIDE) {
-            s.append(' ').append(x.getTokenKind(i)).append(':').append(x.getTokenArg(i));
-        }
-        return s.toString();
+        return x.getTokenCount() + " tokens," + atEveryIndex(x::getTokenKind) + "," + atEveryIndex(x::getTokenArg);
     }
 
     static String results(TwoPhaseUnwind x) {
-        StringBuilder s = new StringBuilder(" " + Program.outcome(x) + " trace " + x.getTraceLength() + ":");
+        return " " + Program.outcome(x) + " trace " + x.getTraceLength() + ":" + atEveryIndex(x::getTrace);
+    }
+
+    /** Each getter for itself, as a getter that had an effect would hide it from those called after it. */
+    private static final List<Function<TwoPhaseUnwind, String>> VIEWS = List.of(
+            x -> "getTokenCount " + x.getTokenCount(),
+            x -> "getTokenKind " + atEveryIndex(x::getTokenKind),
+            x -> "getTokenArg " + atEveryIndex(x::getTokenArg),
+            x -> "isCompiled " + x.isCompiled(),
+            x -> "getFunctionCount " + x.getFunctionCount(),
+            x -> "getStatus " + x.getStatus(),
+            x -> "getResult " + x.getResult(),
+            x -> "getUncaughtType " + x.getUncaughtType(),
+            x -> "getTraceLength " + x.getTraceLength(),
+            x -> "getTrace " + atEveryIndex(x::getTrace),
+            x -> "getCatchRuns " + x.getCatchRuns(),
+            x -> "getFinallyRuns " + x.getFinallyRuns(),
+            States::future);
+
+    /** After the call, objects in these states answer as others that are made alike and don't get the call. */
+    static void dueChangesNothing(Supplier<List<State>> states, Consumer<TwoPhaseUnwind> call) {
+        for (Function<TwoPhaseUnwind, String> view : VIEWS) {
+            List<State> called = states.get();
+            List<State> others = states.get();
+            for (int s = 0; s < called.size(); s++) {
+                call.accept(called.get(s).x());
+                call.accept(called.get(s).x());
+                Due.same(called.get(s).name() + ", after the call", view.apply(called.get(s).x()),
+                        view.apply(others.get(s).x()));
+            }
+        }
+    }
+
+    static void dueChangesNothing(Consumer<TwoPhaseUnwind> call) {
+        dueChangesNothing(States::all, call);
+    }
+
+    /** The getter's answers at every index that an object can have, and far outside. */
+    static String atEveryIndex(IntUnaryOperator getter) {
+        StringBuilder s = new StringBuilder();
         for (int i = 0; i < 34; i++) {
-            s.append(' ').append(x.getTrace(i));
+            s.append(' ').append(getter.applyAsInt(i));
         }
         for (int i : OUTSIDE) {
-            s.append(' ').append(x.getTrace(i));
+            s.append(' ').append(getter.applyAsInt(i));
         }
         return s.toString();
-    }
-
-    /** In any state: calling the getter over and over changes no answer, now or later. */
-    static void dueChangesNothing(Consumer<TwoPhaseUnwind> getter) {
-        List<State> asked = all();
-        List<State> twins = all();
-        for (int s = 0; s < asked.size(); s++) {
-            TwoPhaseUnwind x = asked.get(s).x();
-            getter.accept(x);
-            getter.accept(x);
-            Due.same(asked.get(s).name() + ", a getter called: all later answers", future(x), future(twins.get(s).x()));
-        }
-    }
-
-    /** Calls the getter with every index that an object can have, and with those far outside. */
-    static void atEveryIndex(IntConsumer getter) {
-        for (int i = 0; i < 34; i++) {
-            getter.accept(i);
-        }
-        for (int i : OUTSIDE) {
-            getter.accept(i);
-        }
     }
 
     /** What the object answers from here on: two objects with one future have no hidden difference. */
