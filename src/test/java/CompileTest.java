@@ -315,6 +315,11 @@ public final class CompileTest {
     }
 
     private static void answersInRange() {
+        for (States.State state : States.all()) {
+            int answer = state.x().compile();
+            Due.isTrue(state.name() + ": compile() in range: " + answer,
+                    answer >= -1 && answer <= state.x().getTokenCount());
+        }
         TwoPhaseUnwind x = new TwoPhaseUnwind(32, 1);
         RandomProgram random = new RandomProgram(4);
         for (int round = 0; round < 20000; round++) {

@@ -102,7 +102,7 @@ final class States {
         return " " + Program.outcome(x) + " trace " + x.getTraceLength() + ":" + atEveryIndex(x::getTrace);
     }
 
-    /** Each getter for itself, as a getter that had an effect would hide it from those called after it. */
+    /** Each call for itself, as a getter that had an effect would have it on both of the objects compared. */
     private static final List<Function<TwoPhaseUnwind, String>> VIEWS = List.of(
             x -> "getTokenCount " + x.getTokenCount(),
             x -> "getTokenKind " + atEveryIndex(x::getTokenKind),
@@ -116,6 +116,9 @@ final class States {
             x -> "getTrace " + atEveryIndex(x::getTrace),
             x -> "getCatchRuns " + x.getCatchRuns(),
             x -> "getFinallyRuns " + x.getFinallyRuns(),
+            x -> "addToken " + x.addToken(TwoPhaseUnwind.T_END, 6) + " " + tokens(x),
+            x -> "compile " + x.compile() + " " + x.isCompiled(),
+            x -> "run " + x.run(1) + " " + results(x),
             States::future);
 
     /** After the call, objects in these states answer as others that are made alike and don't get the call. */
