@@ -42,12 +42,10 @@ public final class TwoPhaseUnwind {
     private final int[] args = new int[MAX_TOKENS];
     private int tokenCount;
 
-    // What compile leaves for run. clauseTry tells the TRY that a CATCH belongs to;
-    // finallyOf and endOf are looked up by the TRY token.
+    // What compile leaves for run. tryOf tells the TRY that a CATCH, FINALLY or END belongs to,
+    // and is NO_TOKEN for all else.
     private final int[] functionStart = new int[MAX_FUNCTIONS];
-    private final int[] clauseTry = new int[MAX_TOKENS];
-    private final int[] finallyOf = new int[MAX_TOKENS];
-    private final int[] endOf = new int[MAX_TOKENS];
+    private final int[] tryOf = new int[MAX_TOKENS];
     private boolean compiled;
     private int functionCount;
 
@@ -60,15 +58,13 @@ public final class TwoPhaseUnwind {
     private int highestCall;
 
     // Working state of run. Calls only go to higher functions, so no TRY or CALL token has
-    // two frames at a time: MAX_TOKENS are enough, and a TRY token names its frame. Every body
-    // of a valid program is closed by a token, so pc never passes the last one. The looks at
-    // these bounds below only make it plain that no index can go astray.
+    // two frames at a time, and MAX_TOKENS are enough. Every body of a valid program is closed
+    // by a token, so pc never passes the last one. The looks at these bounds below only make it
+    // plain that no index can go astray.
     private final int[] frameToken = new int[MAX_TOKENS];
     private final int[] framePart = new int[MAX_TOKENS];
-    // In a CATCH body the type it caught, in a FINALLY body the type that is under way.
+    // In a CATCH body the type it caught, in a FINALLY body the type under way, or 0.
     private final int[] frameType = new int[MAX_TOKENS];
-    // The CATCH that the unwinding goes on to after a FINALLY body, or NO_TOKEN.
-    private final int[] frameHandler = new int[MAX_TOKENS];
     private int depth;
     private int pc;
     private int acc;
@@ -213,8 +209,7 @@ public final class TwoPhaseUnwind {
         startedFunctions = 0;
         highestCall = 0;
         for (int i = 0; i < MAX_TOKENS; i++) {
-            clauseTry[i] = NO_TOKEN;
-            finallyOf[i] = NO_TOKEN;
+            tryOf[i] = NO_TOKEN;
         }
     }
 
@@ -229,9 +224,9 @@ public final class TwoPhaseUnwind {
             case T_TRY:
                 return acceptTry(i);
             case T_CATCH:
-                return acceptCatch(i);
+                return args[i] >= CATCH_ANY && args[i] <= MAX_TYPE && acceptClause(i, IN_CATCH);
             case T_FINALLY:
-                return acceptFinally(i);
+                return acceptClause(i, IN_FINALLY);
             case T_ADD:
             case T_MARK:
                 return true;
@@ -266,7 +261,7 @@ public final class TwoPhaseUnwind {
         if (openPart[top] == IN_TRY) {
             return false;
         }
-        endOf[openTry[top]] = i;
+        tryOf[i] = openTry[top];
         openCount = top;
         return true;
     }
@@ -281,28 +276,17 @@ public final class TwoPhaseUnwind {
         return true;
     }
 
-    private boolean acceptCatch(int i) {
-        if (!mayOpenClause() || args[i] < CATCH_ANY || args[i] > MAX_TYPE) {
+    private boolean acceptClause(int i, int part) {
+        if (openCount == 0) {
             return false;
         }
         int top = openCount - 1;
-        openPart[top] = IN_CATCH;
-        clauseTry[i] = openTry[top];
-        return true;
-    }
-
-    private boolean acceptFinally(int i) {
-        if (!mayOpenClause()) {
+        if (openPart[top] == IN_FINALLY) {
             return false;
         }
-        int top = openCount - 1;
-        openPart[top] = IN_FINALLY;
-        finallyOf[openTry[top]] = i;
+        openPart[top] = part;
+        tryOf[i] = openTry[top];
         return true;
-    }
-
-    private boolean mayOpenClause() {
-        return openCount > 0 && openPart[openCount - 1] != IN_FINALLY;
     }
 
     private boolean isInsideCatch() {
@@ -357,9 +341,7 @@ public final class TwoPhaseUnwind {
                 raise(caught);
                 break;
             case T_CALL:
-                pushFrame(IN_CALL);
-                // compile has let only the number of a function stand here.
-                pc = functionStart[arg] + 1;
+                enterFunction(arg);
                 break;
             case T_TRY:
                 pushFrame(IN_TRY);
@@ -379,14 +361,19 @@ public final class TwoPhaseUnwind {
         }
     }
 
-    private void pushFrame(int part) {
-        if (depth >= MAX_TOKENS) {
-            return;
+    private void enterFunction(int function) {
+        if (function >= 0 && function < functionCount) {
+            pushFrame(IN_CALL);
+            pc = functionStart[function] + 1;
         }
-        frameToken[depth] = pc;
-        framePart[depth] = part;
-        frameHandler[depth] = NO_TOKEN;
-        depth++;
+    }
+
+    private void pushFrame(int part) {
+        if (depth < MAX_TOKENS) {
+            frameToken[depth] = pc;
+            framePart[depth] = part;
+            depth++;
+        }
     }
 
     private void finishBody() {
@@ -395,15 +382,17 @@ public final class TwoPhaseUnwind {
             return;
         }
         int top = depth - 1;
+        int owed = owedFinally(top);
         if (framePart[top] == IN_CALL) {
             leaveTo(frameToken[top] + 1);
-        } else if (owesFinally(top)) {
-            startFinally(top, NO_TOKEN, 0);
-        } else if (frameHandler[top] != NO_TOKEN) {
+        } else if (owed != NO_TOKEN) {
+            startFinally(top, owed, 0);
+        } else if (framePart[top] == IN_FINALLY && frameType[top] != 0) {
             depth = top;
-            unwind(frameHandler[top], frameType[top]);
+            unwind(frameType[top]);
         } else {
-            leaveTo(endOf[frameToken[top]] + 1);
+            int end = findPart(frameToken[top], T_END);
+            leaveTo(end + 1);
         }
     }
 
@@ -420,54 +409,67 @@ public final class TwoPhaseUnwind {
 
     /** Handles a throw: the search changes nothing, so that without a handler no body runs. */
     private void raise(int type) {
-        int handler = findHandler(type);
-        if (handler == NO_TOKEN) {
-            endRun(STATUS_UNCAUGHT, type);
+        if (hasHandler(type)) {
+            unwind(type);
         } else {
-            unwind(handler, type);
+            endRun(STATUS_UNCAUGHT, type);
         }
     }
 
-    private int findHandler(int type) {
-        for (int i = depth - 1; i >= 0; i--) {
-            if (framePart[i] == IN_TRY) {
-                int clause = findClause(frameToken[i], type);
-                if (clause != NO_TOKEN) {
-                    return clause;
-                }
+    private boolean hasHandler(int type) {
+        for (int frame = depth - 1; frame >= 0; frame--) {
+            if (activeClause(frame, type) != NO_TOKEN) {
+                return true;
             }
         }
-        return NO_TOKEN;
+        return false;
     }
 
-    private int findClause(int tryToken, int type) {
-        int end = endOf[tryToken];
-        for (int i = tryToken + 1; i < end; i++) {
-            // Clauses of nested TRY statements lie in this range too.
-            if (clauseTry[i] == tryToken && (args[i] == CATCH_ANY || args[i] == type)) {
+    /**
+     * Leaves frames until one has a body to run: a FINALLY on the way, or the handler. A FINALLY
+     * body that completes leaves the frames around it as they were when the search went through
+     * them, so the first clause met on the way is the one that the search has found.
+     */
+    private void unwind(int type) {
+        for (int frame = depth - 1; frame >= 0; frame--) {
+            depth = frame + 1;
+            int handler = activeClause(frame, type);
+            if (handler != NO_TOKEN) {
+                startCatch(frame, handler, type);
+                return;
+            }
+            int owed = owedFinally(frame);
+            if (owed != NO_TOKEN) {
+                startFinally(frame, owed, type);
+                return;
+            }
+        }
+    }
+
+    private int activeClause(int frame, int type) {
+        if (framePart[frame] != IN_TRY) {
+            return NO_TOKEN;
+        }
+        for (int i = 0; i < tokenCount; i++) {
+            boolean clause = kinds[i] == T_CATCH && tryOf[i] == frameToken[frame];
+            if (clause && (args[i] == CATCH_ANY || args[i] == type)) {
                 return i;
             }
         }
         return NO_TOKEN;
     }
 
-    /** Leaves frames until one has a body to run: a FINALLY on the way, or the handler. */
-    private void unwind(int handler, int type) {
-        for (int top = depth - 1; top >= 0; top--) {
-            depth = top + 1;
-            if (frameToken[top] == clauseTry[handler]) {
-                startCatch(top, handler, type);
-                return;
-            }
-            if (owesFinally(top)) {
-                startFinally(top, handler, type);
-                return;
-            }
-        }
+    private int owedFinally(int frame) {
+        return framePart[frame] == IN_FINALLY ? NO_TOKEN : findPart(frameToken[frame], T_FINALLY);
     }
 
-    private boolean owesFinally(int frame) {
-        return framePart[frame] != IN_FINALLY && finallyOf[frameToken[frame]] != NO_TOKEN;
+    private int findPart(int tryToken, int kind) {
+        for (int i = 0; i < tokenCount; i++) {
+            if (kinds[i] == kind && tryOf[i] == tryToken) {
+                return i;
+            }
+        }
+        return NO_TOKEN;
     }
 
     private void startCatch(int frame, int handler, int type) {
@@ -477,19 +479,18 @@ public final class TwoPhaseUnwind {
         pc = handler + 1;
     }
 
-    private void startFinally(int frame, int handler, int type) {
+    private void startFinally(int frame, int owed, int type) {
         framePart[frame] = IN_FINALLY;
-        frameHandler[frame] = handler;
         frameType[frame] = type;
         finallyRuns++;
-        pc = finallyOf[frameToken[frame]] + 1;
+        pc = owed + 1;
     }
 
     /** Frames nest as the text of their function does, so the innermost CATCH is the lexical one. */
     private int innermostCaughtType() {
-        for (int i = depth - 1; i >= 0; i--) {
-            if (framePart[i] == IN_CATCH) {
-                return frameType[i];
+        for (int frame = depth - 1; frame >= 0; frame--) {
+            if (framePart[frame] == IN_CATCH) {
+                return frameType[frame];
             }
         }
         return 0;
