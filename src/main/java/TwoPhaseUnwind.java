@@ -388,7 +388,6 @@ public final class TwoPhaseUnwind {
         } else if (owed != NO_TOKEN) {
             startFinally(top, owed, 0);
         } else if (framePart[top] == IN_FINALLY && frameType[top] != 0) {
-            depth = top;
             unwind(frameType[top]);
         } else {
             int end = findPart(frameToken[top], T_END);
